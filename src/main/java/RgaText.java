@@ -169,7 +169,8 @@ public final class RgaText {
     }
 
     private boolean inText(int replica, int element) {
-        return knowsElement(replica, element) && !knowsDeletion(replica, element);
+        int cell = cell(replica, element);
+        return knownElements[cell] && !knownDeletions[cell];
     }
 
     private int textLength(int replica) {
