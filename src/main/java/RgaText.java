@@ -169,8 +169,8 @@ public final class RgaText {
     }
 
     private boolean inText(int replica, int element) {
-        int cell = cell(replica, element);
-        return knownElements[cell] && !knownDeletions[cell];
+        int at = cell(replica, element);
+        return knownElements[at] && !knownDeletions[at];
     }
 
     private int textLength(int replica) {
